@@ -140,6 +140,11 @@ public final class PromisesTest {
         due(3, "end(238)", x.end(238), true);
         due(2, "three are too many", x.feed(0x010101, 0, 0, 0, 0), NONE);
         due(2, "none of them came", x.count(2), 238);
+        for (int k = 0; k < 5; k++) {
+            int three = 0x010101;
+            due(2, "three in any number", x.feed(k == 0 ? three : 0, k == 1 ? three : 0, k == 2 ? three : 0,
+                    k == 3 ? three : 0, k == 4 ? three : 0), NONE);
+        }
         due(2, "two are not", x.feed(0x0101, 0, 0, 0, 0), 240);
         due(3, "the first bytes stay", x.end(1), true);
         due(3, "l", x.fault(0), NONE);
@@ -284,6 +289,7 @@ public final class PromisesTest {
         due(5, "the tape is empty", x.count(2), 0);
         for (int k = 0; k < 6; k++) {
             due(5, "law " + k, Texts.addLaw(x, "y:" + k), k);
+            due(5, "the tape is empty", x.count(2), 0);
         }
         due(5, "no seventh", Texts.addLaw(x, "y:6"), NONE);
         due(5, "its tape stays", x.count(2), 3);
@@ -491,6 +497,27 @@ public final class PromisesTest {
         due(12, "1000+200-60", x.value(0), 1140);
         due(12, "2000+200-61", x.value(1), 2139);
         due(12, "below 0", x.value(2), -7);
+        Texts.addLaw(x, "y:r+k");
+        x.law(0, 1);
+        due(11, "r and k are 0 for ODDS", x.odds(0, 50), 0);
+        Texts.addLaw(x, "y:w+s+d+t+c");
+        x.law(1, 2);
+        due(12, "w, s, d, t, c are 0 for a VALUE", x.value(0), 0);
+        for (int first = 0; first < 3; first++) {
+            ThreeLifts three = hall("lo50p50;lo50p50;lo50p50;rt1e1");
+            lifts(three, 7, 7, 7);
+            three.change((first + 1) % 3, 51);
+            three.change((first + 2) % 3, 52);
+            lifts(three, 7);
+            due(12, "the first one has it alone", three.lifter(first, 11), 1);
+            ThreeLifts even = hall("lo" + (first == 0 ? 52 : 50) + "p" + (first == 0 ? 48 : 50)
+                    + ";lo" + (first == 1 ? 52 : 50) + "p" + (first == 1 ? 48 : 50)
+                    + ";lo" + (first == 2 ? 52 : 50) + "p" + (first == 2 ? 48 : 50) + ";rt1e1");
+            lifts(even, 7, 7, 7, 7, 7, 7);
+            due(12, "the earlier one", even.lifter(first, 11), 1);
+            due(12, "the lower ones were earlier", even.lifter(2, 11), first == 2 ? 1 : 3);
+            due(12, "and so", even.lifter(0, 11), first == 0 ? 1 : 2);
+        }
         ThreeLifts four = hall("lo10p1;lo11p2;lo12p3;lo13p4;rt1");
         lifts(four, 7, 7, 7, 7, 7, 7, 7, 7);
         due(12, "behind the third", four.value(0), 0);
@@ -781,6 +808,9 @@ public final class PromisesTest {
         due(20, "1 without a BEST is not in", y.left(), 6);
         lifts(y, 7);
         due(20, "0 had 99: it can't ask and begins the jerk", y.left(), 3);
+        ThreeLifts one = hall("lo1;l;rt1");
+        lifts(one, 7);
+        due(20, "a BEST of 1 kilo", one.left(), 3);
         ThreeLifts z = hall("lo40;lo50;rt2");
         lifts(z, 7);
         z.home(0);
@@ -826,6 +856,24 @@ public final class PromisesTest {
         ThreeLifts twelve = hallWithOdds("l;l;rt3", "y:100");
         due(21, "12 lifts", twelve.wins(0, 1), 1000000000);
         due(21, "by tries: the lower one is not first by BODY", twelve.hopes(), 1);
+        due(22, "12 lifts", twelve.mean(1), 2);
+        ThreeLifts thirteen = hallWithOdds("l;l;l;rt3", "y:100");
+        lifts(thirteen, 7, 7, 7, 7, 7);
+        due(20, "13 lifts", thirteen.left(), 13);
+        due(21, "13 lifts", thirteen.wins(0, 1), NONE);
+        due(22, "13 lifts", thirteen.mean(0), HIDDEN);
+        due(38, "13 lifts", thirteen.hopes(), NONE);
+        lifts(thirteen, 7);
+        due(21, "12 are few enough", thirteen.wins(0, 1), 1000000000);
+        ThreeLifts six = hallWithOdds("lo46;lo45;lo44;lo43;lo42;lo41;rt1", "y:100");
+        for (int i = 0; i < 6; i++) {
+            due(21, "place " + (i + 1), six.wins(i, i + 1), 1000000000);
+            due(21, "no better one", i == 0 ? 0 : six.wins(i, i), 0);
+        }
+        // 0 is first by one part: .01 * .01 for itself, .01 * .01 * .1 that the three others miss
+        ThreeLifts part = hallWithOdds("lo40p40;lo41p61;lo42p62;lo43p63;rt1", "y:w=40?1;y:w<60?100;y:w=63?90;y:99");
+        due(21, "one part", part.wins(0, 1), 1);
+        due(38, "is enough", part.hopes(), 15);
         ThreeLifts more = hall("l;l;l;l;rt2");
         due(21, "16 lifts", more.wins(0, 1), NONE);
         due(22, "16 lifts", more.mean(0), HIDDEN);
@@ -920,6 +968,12 @@ public final class PromisesTest {
         due(23, "ten weights: 1 .. 10", ten.advice(0, 0), 10);
         due(23, "60", ten.advice(0, 1), 60);
         due(23, "nine lifts", hall("l;l;l;rt2").advice(0, 0), HIDDEN);
+        ThreeLifts nine = hallWithOdds("l;l;rt3", "y:100");
+        lifts(nine, 7, 7, 7);
+        due(20, "nine lifts", nine.left(), 9);
+        due(23, "nine lifts", nine.advice(nine.next(), 0), HIDDEN);
+        lifts(nine, 7);
+        due(23, "eight lifts", nine.advice(nine.next(), 1) > 0, true);
         ThreeLifts eight = hallWithOdds("l;l;rt2", "y:100");
         due(23, "eight lifts: 10 and 12 are silver", eight.advice(0, 1), 2);
         lifts(eight, 7);
@@ -990,6 +1044,19 @@ public final class PromisesTest {
         due(25, "STEP: 38, then 43 by half", s.alone(0, 0), 40500);
         due(25, "38", s.alone(0, 1), 38);
         due(25, "waiting does not count", hallAfterWarm().alone(0, 0), hall("lw9f0c9s50;l").alone(0, 0));
+        ThreeLifts c = hallWithOdds("lo40;rt3", "y:c*50");
+        c.warm(0);
+        due(25, "c is 0", c.alone(0, 0), 0);
+        due(26, "c is 0", c.empty(0), 1000000000);
+        ThreeLifts one = hallWithOdds("lo40;rt3", "y:w=1?100;y:0");
+        due(25, "a kilo", one.alone(0, 0), 1000);
+        due(25, "1", one.alone(0, 1), 1);
+        ThreeLifts misses = hallWithOdds("lo40;rt2", "y:t=1&w=1?100;y:0");
+        due(25, "it misses 1 at first", misses.alone(0, 0), 1000);
+        due(25, "of several the least", misses.alone(0, 1), 1);
+        ThreeLifts top = hallWithOdds("lo40;rt2", "y:w=99?10;y:0");
+        due(25, "99 by .1 and .09", top.alone(0, 0), 18810);
+        due(25, "of several the least", top.alone(0, 1), 99);
         // tired by 9 a lift, 50 - 9: two lifts by the usual odds, worked out by the slow way
         ThreeLifts f = hall("ls50w0f9d1;rt2");
         due(25, "two tries, thousandths", f.alone(0, 0), slowAlone(50, 9, 1, 2, 1, 0));
@@ -1033,6 +1100,9 @@ public final class PromisesTest {
         due(26, "the least is 1", y.empty(1), 990000000);
         lifts(y, 0);
         due(26, "the bar is 40", y.empty(1), 600000000);
+        ThreeLifts one = hall("lo1;rt2");
+        lifts(one, 7);
+        due(26, "it has 1 kilo", one.empty(0), 0);
         ThreeLifts c = hallWithOdds("lo40;rt3", "y:33");
         due(26, "cut by cut", c.empty(0), 300763000);
     }
@@ -1060,6 +1130,9 @@ public final class PromisesTest {
         lifts(e, 7, 7, 7);
         due(27, "by who was earlier even is not enough", e.needs(0, 1), 43);
         due(27, "not in", e.needs(1, 1), NONE);
+        ThreeLifts just = hall("lo10p90b50;lo60p49b60;rt1");
+        lifts(just, 7, 7, 7);
+        due(27, "109 less 10 is 99, and it is lighter", just.needs(0, 1), 99);
         ThreeLifts far = hall("lo1p90;lo60p50;rt1");
         lifts(far, 7, 7, 7);
         due(27, "110 less 1 is beyond 99", far.needs(0, 1), NONE);
@@ -1133,6 +1206,11 @@ public final class PromisesTest {
         due(30, "no greatest", y.much(0, 0, 2, 2), NONE);
         due(30, "52 .. 53 by 3", y.much(0, 0, 3, 0), 2);
         due(30, "52", y.much(0, 0, 3, 1), 52);
+        ThreeLifts w = hall("lo50;rt2");
+        lifts(w, 0, 7);
+        due(30, "50 alone", w.much(0, 0, 0, 0), 1);
+        due(30, "50", w.much(0, 0, 0, 1), 50);
+        due(30, "50", w.much(0, 0, 0, 2), 50);
         ThreeLifts z = hall("lo5");
         lifts(z, 7);
         due(30, "no less than 0", z.much(0, 0, 20, 1), 0);
@@ -1235,6 +1313,9 @@ public final class PromisesTest {
             due(34, "of several the lowest", y.other(law, 0), 0);
         }
         due(34, "cut: 9000 by 70", y.other(1, 1), 128);
+        ThreeLifts light = hall("lo40p50b1;rt1");
+        lifts(light, 7, 7);
+        due(34, "9000 by 1", light.other(1, 1), 9000);
     }
 
     private static void promise35() {
@@ -1264,6 +1345,11 @@ public final class PromisesTest {
         ThreeLifts c = hallWithOdds("lo50;l", "y:c");
         c.warm(1);
         due(35, "waiting is better by this law", c.ready(0, 0), 0);
+        ThreeLifts z = hallWithOdds("lo50;l", "y:c=0?70;y:c=1?60;y:50");
+        z.warm(1);
+        z.warm(1);
+        due(35, "c is 0 behind a warm-up", z.ready(0, 0), 1);
+        due(35, "70", z.ready(0, 1), 70);
         due(35, "1", c.ready(0, 1), 1);
     }
 
@@ -1378,6 +1464,25 @@ public final class PromisesTest {
         due(43, "the newer one", x.back(), 2);
         Texts.tape(x, "l").text(0);
         due(43, "none of this hall", x.back(), NONE);
+        ThreeLifts y = hall("lo40p50;lo45p50;rt1");
+        lifts(y, 5, 3, 6);
+        y.image();
+        y.undo();
+        y.undo();
+        y.undo();
+        y.home(0);
+        y.change(1, 77);
+        y.warm(1);
+        lifts(y, 7, 7);
+        y.back();
+        int[][] sheet = {{0, 40, 5, 1}, {1, 45, 3, 2}, {0, 50, 6, 3}};
+        for (int i = 0; i < 3; i++) {
+            for (int what = 0; what < 4; what++) {
+                due(43, "sheet(" + i + ", " + what + ")", y.sheet(i, what), sheet[i][what]);
+            }
+        }
+        due(43, "the rounds of lifts, too", y.kilos(1, 0), 45);
+        due(43, "the jerk of 0", y.kilos(0, 1), 50);
     }
 
     private static void promise44() {
