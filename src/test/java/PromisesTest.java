@@ -275,6 +275,8 @@ public final class PromisesTest {
         fault(1, "y:!(!(!(w=1)))&!([[[[w]]]]=1)?1", NONE);
         fault(1, "y:!(!([[[1]]]=1))?1", 8);
         fault(1, "y:[1]+[1]+[1]+[1]+[1]+[1]+[1]+[1]", NONE);
+        fault(1, "y:w=1?[[[[[[1]]]]]]", NONE);
+        fault(1, "y:w=1?[[[[[[[1]]]]]]]", 12);
         fault(1, "y:w=1 &\t", 7);
     }
 
@@ -499,6 +501,7 @@ public final class PromisesTest {
         due(12, "below 0", x.value(2), -7);
         Texts.addLaw(x, "y:r+k");
         x.law(0, 1);
+        due(12, "a VALUE first", x.value(0), 1140);
         due(11, "r and k are 0 for ODDS", x.odds(0, 50), 0);
         Texts.addLaw(x, "y:w+s+d+t+c");
         x.law(1, 2);
@@ -874,6 +877,10 @@ public final class PromisesTest {
         ThreeLifts part = hallWithOdds("lo40p40;lo41p61;lo42p62;lo43p63;rt1", "y:w=40?1;y:w<60?100;y:w=63?90;y:99");
         due(21, "one part", part.wins(0, 1), 1);
         due(38, "is enough", part.hopes(), 15);
+        // the same with its own jerk at last: .01, .01 * .01 * .01 that the others miss, .1
+        ThreeLifts last = hallWithOdds("lo40p64;lo50p61;lo51p62;lo52p63;rt1", "y:w=40?1;y:w<60?100;y:w=64?10;y:99");
+        due(21, "one good part", last.wins(0, 1), 1);
+        due(38, "is enough", last.hopes(), 15);
         ThreeLifts more = hall("l;l;l;l;rt2");
         due(21, "16 lifts", more.wins(0, 1), NONE);
         due(22, "16 lifts", more.mean(0), HIDDEN);
@@ -1100,7 +1107,7 @@ public final class PromisesTest {
         due(26, "the least is 1", y.empty(1), 990000000);
         lifts(y, 0);
         due(26, "the bar is 40", y.empty(1), 600000000);
-        ThreeLifts one = hall("lo1;rt2");
+        ThreeLifts one = hallWithOdds("lo1;rt2", "y:0");
         lifts(one, 7);
         due(26, "it has 1 kilo", one.empty(0), 0);
         ThreeLifts c = hallWithOdds("lo40;rt3", "y:33");
