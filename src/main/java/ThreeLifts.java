@@ -77,16 +77,17 @@ public final class ThreeLifts {
     }
 
     public int text(int sort) {
-        if (sort == 0) {
+        if (sort == 0 && hallReader.read() == NONE) {
             return takeHall();
         }
-        return sort == 1 ? takeLaw() : NONE;
+        if (sort == 1 && laws.size < LAWS_MOST && lawReader.read() == NONE) {
+            tape.length = 0;
+            return laws.add(lawReader.steps, lawReader.size);
+        }
+        return NONE;
     }
 
     private int takeHall() {
-        if (hallReader.read() != NONE) {
-            return NONE;
-        }
         hall.become(hallReader.draft);
         tape.length = 0;
         stand.begin();
@@ -94,14 +95,6 @@ public final class ThreeLifts {
         pastSize = 0;
         hasImage = false;
         return hall.size;
-    }
-
-    private int takeLaw() {
-        if (laws.size >= LAWS_MOST || lawReader.read() != NONE) {
-            return NONE;
-        }
-        tape.length = 0;
-        return laws.add(lawReader.steps, lawReader.size);
     }
 
     // ---- what stands ----
@@ -704,15 +697,15 @@ public final class ThreeLifts {
 
         /** The sign that is read next, END (a byte that no tape holds) behind the last. */
         private int sign() {
-            return at >= 0 && at < length ? bytes[at] : END;
+            return at < length ? bytes[at] : END;
         }
 
         /** The next sign behind blanks. */
         int look() {
-            for (int k = 0; k < TAPE_MOST && sign() == ' '; k++) {
+            for (int k = at; k < length && bytes[k] == ' '; k++) {
                 at++;
             }
-            return sign();
+            return at < length ? bytes[at] : END;
         }
 
         void expect(char sign) {
