@@ -344,12 +344,10 @@ public final class ThreeLifts {
             return HIDDEN;
         }
         for (int row = 0; row < lastTries.rows(); row++) {
-            if (lastTries.canBeAsked(row)) {
-                trial.become(stand);
-                lastTries.ask(row, trial);
-                course.go(trial, lastTries.bits(), true);
-                lastTries.note(row, course);
-            }
+            trial.become(stand);
+            lastTries.ask(row, trial);
+            course.go(trial, lastTries.bits(), true);
+            lastTries.note(row, course);
         }
         return lastTries.answer(i);
     }
@@ -1657,13 +1655,9 @@ public final class ThreeLifts {
             return row >> shiftOf(player) & 3;
         }
 
-        boolean canBeAsked(int row) {
-            for (int k = 0; k < size; k++) {
-                if (least[k] + digit(row, k) > WEIGHT_MOST) {
-                    return false;
-                }
-            }
-            return true;
+        /** Digits that would lead above 99 all stand for 99: each of them is a row of its own. */
+        private int weight(int row, int player) {
+            return Math.min(WEIGHT_MOST, least[player] + digit(row, player));
         }
 
         /** Those that are in, as bits. */
@@ -1677,7 +1671,7 @@ public final class ThreeLifts {
 
         void ask(int row, Stand trial) {
             for (int k = 0; k < size; k++) {
-                trial.ask(players[k], least[k] + digit(row, k));
+                trial.ask(players[k], weight(row, k));
             }
         }
 
@@ -1692,7 +1686,7 @@ public final class ThreeLifts {
                 int others = row & ~(3 << shiftOf(k));
                 for (int digit = 0; digit < 4; digit++) {
                     int changed = others | digit << shiftOf(k);
-                    if (canBeAsked(changed) && means[changed * MOST + k] > means[row * MOST + k]) {
+                    if (means[changed * MOST + k] > means[row * MOST + k]) {
                         return false;
                     }
                 }
@@ -1712,7 +1706,7 @@ public final class ThreeLifts {
         int answer(int i) {
             int found = 0;
             for (int row = 0; row < rows(); row++) {
-                if (canBeAsked(row) && isAtRest(row)) {
+                if (isAtRest(row)) {
                     if (found == i) {
                         return asDigits(row);
                     }

@@ -637,7 +637,7 @@ final class Oracle {
         for (int k : all) {
             List<String> longer = new ArrayList<>();
             for (String row : rows) {
-                for (int d = 0; d < 4 && least(now, k) + d <= 99; d++) {
+                for (int d = 0; d < 4; d++) {
                     longer.add(row + d);
                 }
             }
@@ -647,7 +647,7 @@ final class Oracle {
         for (String row : rows) {
             State s = now.copy();
             for (int k = 0; k < all.size(); k++) {
-                s.men.get(all.get(k)).asks = least(now, all.get(k)) + row.charAt(k) - '0';
+                s.men.get(all.get(k)).asks = Math.min(99, least(now, all.get(k)) + row.charAt(k) - '0');
             }
             int[] m = new int[all.size()];
             for (int k = 0; k < all.size(); k++) {

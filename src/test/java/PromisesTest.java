@@ -1018,9 +1018,20 @@ public final class PromisesTest {
         due(24, "three are not", four.rests(NONE) >= 0, true);
         ThreeLifts top = hallWithOdds("lo50p98;rt2", "y:100");
         lifts(top, 7, 7, 0);
-        due(24, "98 and 99 alone", top.rests(NONE), 2);
-        due(24, "1", top.rests(1), 1);
-        due(24, "no third", top.rests(2), NONE);
+        due(24, "98, 99, 99, 99: all four rest", top.rests(NONE), 4);
+        due(24, "2 is held at 99", top.rests(2), 2);
+        due(24, "no fifth", top.rests(4), NONE);
+        top.law(1, Texts.addLaw(top, "y:k"));
+        due(24, "by kilos the three that are 99", top.rests(NONE), 3);
+        due(24, "98 does not rest", top.rests(0), 1);
+        due(24, "3 is 99 too", top.rests(2), 3);
+        // 0 got 98 and has 99 left alone; the lighter 1, who missed 98, is first by 99
+        ThreeLifts both = hallWithOdds("lo50p98b61;lo50p98b60;rt2", "y:100");
+        lifts(both, 7, 7, 7, 7, 7, 0);
+        due(24, "1 rests at 1, 2, 3, whatever 0 says", both.rests(NONE), 12);
+        due(24, "0 1", both.rests(0), 1);
+        due(24, "1 1", both.rests(3), 11);
+        due(24, "3 3", both.rests(11), 33);
     }
 
     private static void promise25() {
