@@ -196,6 +196,25 @@ final class Edges {
         return s.toString();
     }
 
+    /** Every call that only asks, and an image, which changes nothing where there is one of this moment. */
+    static void askAll(ThreeLifts x) {
+        StringBuilder s = new StringBuilder();
+        stand(x, s);
+        outlook(x, s);
+        record(x, s);
+        x.fault(0);
+        x.fault(1);
+        x.calls(0, 40, 5, NONE);
+        x.calls(10, 40, 5, 3);
+        x.image();
+        for (int i = 0; i < x.count(0); i++) {
+            x.advice(i, 1);
+            x.alone(i, 1);
+            x.ready(i, 1);
+            x.yields(0, i);
+        }
+    }
+
     private static void stand(ThreeLifts x, StringBuilder s) {
         for (int what = 0; what < 12; what++) {
             s.append(" c").append(what).append('=').append(x.count(what));

@@ -59,6 +59,11 @@ final class EdgesOfTextsTest {
 
     // ---- promise 1 ----
 
+    static void promise01_theConstants() {
+        due("NONE", ThreeLifts.NONE, -1);
+        due("HIDDEN", ThreeLifts.HIDDEN, -2000000);
+    }
+
     static void promise01_noLiftersNoLawsNoBytes() {
         ThreeLifts x = new ThreeLifts();
         due("LIFTERS", x.count(0), 0);
@@ -818,6 +823,21 @@ final class EdgesOfTextsTest {
         due("WAITED", x.lifter(0, 13), 0);
         due("WARM", x.lifter(0, 4), 3);
         due("no sheet", x.sheet(0, 0), NONE);
+    }
+
+    static void promise05_nothingOfAnOldMeetShows() {
+        String six = "lb51j70;lb52c9;lb53f9;lb54d9;lb55m9;lb56w9;rt2c1s3e1";
+        for (String text : new String[] {"lo41;lo40;rt2", "l", "l;l;l;l;l;l;rt1"}) {
+            Edges.due("behind six in the jerk", Edges.seen(() -> {
+                ThreeLifts x = Edges.lifted(six, 7, 7, 7, 7, 7, 7, 7, 7, 7, 7, 7, 7, 7, 3).tell();
+                x.image();
+                x.change(5, 90);
+                x.home(0);
+                x.warm(5);
+                Texts.tape(x, text).text(0);
+                return x;
+            }), Edges.seen(Edges.hall(text)));
+        }
     }
 
     static void promise05_rulesOfTheOldHallAreGone() {

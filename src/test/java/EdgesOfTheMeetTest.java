@@ -1302,6 +1302,23 @@ final class EdgesOfTheMeetTest {
 
     // ---- promise 44: count ----
 
+    static void promise44_askingChangesNothing() {
+        int[] lights = {7, 0, 7, 7, 7, 0, 7, 7};
+        for (int made = 0; made <= lights.length; made++) {
+            int[] some = java.util.Arrays.copyOf(lights, made);
+            Edges.Story story = () -> {
+                ThreeLifts x = Edges.places(Edges.withOdds(TWO, "y:w<60?70-c;y:40", some).tell(), "y:k-r");
+                x.image();
+                return x;
+            };
+            Edges.due("behind " + made + " lifts", Edges.seen(() -> {
+                ThreeLifts x = story.tell();
+                Edges.askAll(x);
+                return x;
+            }), Edges.seen(story));
+        }
+    }
+
     static void promise44_noSuchWhatIsHidden() {
         for (int what : new int[] {-1, 12, 13, DEEP, FAR, HIDDEN}) {
             Edges.refused("count(" + what + ")", lifted("lo40;lo41", 7), x -> x.count(what), HIDDEN);
