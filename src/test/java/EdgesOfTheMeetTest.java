@@ -69,6 +69,13 @@ final class EdgesOfTheMeetTest {
         due("the other one", x.next(), 1);
     }
 
+    static void promise10_whatWhoWentHomeAskedForDoesNotCount() {
+        ThreeLifts x = Texts.hall("lo40;lo99;lo40;lo99;lo1;lo99");
+        x.home(4);
+        due("0 misses 40", x.lift(0), 0);
+        due("2 asks for 40, too, with fewer tries", x.next(), 2);
+    }
+
     static void promise10_aFloorOf99CanBeAsked() {
         ThreeLifts x = after("lo98;lo99", 7);
         due("FLOOR", x.lifter(0, 16), 99);
@@ -364,6 +371,14 @@ final class EdgesOfTheMeetTest {
             due("even SUM of " + i, first.lifter(i, 10), 96);
             due("0 was the first", first.lifter(i, 11), i + 1);
             due("5 was the first", last.lifter(i, 11), 6 - i);
+        }
+    }
+
+    static void promise12_placesOfSixWithTheLightestSnatch() {
+        ThreeLifts x = after("lo1p50;lo1p51;lo1p52;lo1p53;lo1p54;lo1p55;rt1", 7, 7, 7, 7, 7, 7, 7, 7, 7, 7, 7, 7);
+        for (int i = 0; i < 6; i++) {
+            due("SUM of " + i, x.lifter(i, 10), 51 + i);
+            due("PLACE of " + i, x.lifter(i, 11), 6 - i);
         }
     }
 

@@ -319,6 +319,18 @@ final class EdgesOfWhatCanComeTest {
         due("4, 5, 6 are good", y.advice(0, 0), 4);
     }
 
+    static void promise23_meansAreCutAheadOfComparing() {
+        ThreeLifts x = Edges.places(byOdds("lo40p50;rt1", "y:50+w", 7), "y:r=1?3;y:0");
+        due("1.53 .. 1.80 are all 1", x.advice(0, 0), 1);
+        due("1", x.advice(0, 1), 1);
+        ThreeLifts y = Edges.places(byOdds("lo40p50;rt1", "y:58+w", 7), "y:r=1?3;y:0");
+        due("9: 2.01, 10: 2.04", y.advice(0, 0), 9);
+        due("2", y.advice(0, 1), 2);
+        ThreeLifts z = Edges.places(byOdds("lo40p50;rt1", "y:70-w", 7), "y:r=1?0-3;y:0");
+        due("3: -2.01, 4: -1.98, 10: -1.80", z.advice(0, 0), 4);
+        due("-1", z.advice(0, 1), -1);
+    }
+
     static void promise23_allMeansMayBeBelow0() {
         ThreeLifts x = Edges.places(byOdds("lo40p50;rt1", "y:100", 7), "y:0-k");
         due("the least weight", x.advice(0, 0), 1);
@@ -446,6 +458,15 @@ final class EdgesOfWhatCanComeTest {
         due("40 and 1, 2, 3, 4: 43 is 3 from 1 .. 4 on", x.rests(NONE), 2);
         due("2", x.rests(0), 2);
         due("3", x.rests(1), 3);
+    }
+
+    static void promise24_meansAreCutAheadOfComparing() {
+        ThreeLifts x = Edges.places(byOdds("l;rt1", "y:50+w", 7), "y:r=1?3;y:0");
+        due("1.53 .. 1.62 are all 1", x.rests(NONE), 4);
+        ThreeLifts y = Edges.places(byOdds("l;rt1", "y:64+w", 7), "y:r=1?3;y:0");
+        due("1.95, 1.98, 2.01, 2.04", y.rests(NONE), 2);
+        due("2.01", y.rests(0), 2);
+        due("2.04", y.rests(1), 3);
     }
 
     static void promise24_itMayBeThatNothingRests() {

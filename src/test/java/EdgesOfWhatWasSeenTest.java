@@ -159,6 +159,13 @@ final class EdgesOfWhatWasSeenTest {
         due("of 55", x.lose(2), 0);
     }
 
+    static void promise31_ofSixOnlyThoseWithItsSum() {
+        ThreeLifts x = after("lo1p50;lo6p50;lo2p60;lo2p60;lo2p60;lo2p60;rt1", 7, 7, 7, 7, 7, 7, 7, 7, 7, 7, 7, 7);
+        due("56", x.lifter(1, 10), 56);
+        due("nobody else has 56", x.lose(1), 0);
+        due("four have 62", x.lose(5), 1);
+    }
+
     static void promise31_ifEvenOnesArePartedByWhoWasEarlierToo() {
         due("e1", after("lo40p50b60;lo40p50b60;rt1e1", 7, 7, 7, 7).lose(0), 1);
     }
